@@ -340,10 +340,14 @@ public final class FirstParts {
                 line.room = clause.first;
                 break;
             default:
-                int[] word = text.wordAt(clause.wordFrom, clause.wordLength);
-                line.append(new Part(word, clause.first, clause.second));
+                line.append(partOf(clause));
                 break;
         }
+    }
+
+    private Part partOf(Clause clause) {
+        int[] word = text.wordAt(clause.wordFrom, clause.wordLength);
+        return new Part(word, clause.first, clause.second);
     }
 
     private static boolean within(int v, int least, int most) {
@@ -474,7 +478,7 @@ public final class FirstParts {
         int heaviestWithin(int r) {
             int best = 0;
             int bestWeight = 0;
-            for (int set = 0; set < 1 << parts; set++) {
+            for (int set = 0; set < (1 << parts); set++) {
                 int weight = weightWithin(set, r);
                 if (weight >= bestWeight) {
                     best = set;
@@ -489,7 +493,7 @@ public final class FirstParts {
             int length = 0;
             int weight = 0;
             for (int i = 0; i < parts; i++) {
-                if ((set >> i & 1) == 1) {
+                if (((set >> i) & 1) == 1) {
                     length += row[i].stripes();
                     weight += row[i].weight;
                 }
@@ -832,7 +836,7 @@ public final class FirstParts {
 
         int openingSets(int part) {
             int sets = 0;
-            for (int set = 0; set < 1 << n; set++) {
+            for (int set = 0; set < (1 << n); set++) {
                 if (Integer.bitCount(set) >= row[part].need) {
                     sets++;
                 }
@@ -933,7 +937,7 @@ public final class FirstParts {
          */
         boolean mend() {
             int liars = (holders - size) / 2;
-            for (int set = (1 << size) - 1; set < 1 << size + liars; set++) {
+            for (int set = (1 << size) - 1; set < (1 << (size + liars)); set++) {
                 if (Integer.bitCount(set) == size) {
                     goThrough(set);
                     if (agreeing() >= holders - liars) {
@@ -965,7 +969,7 @@ public final class FirstParts {
         private void goThrough(int set) {
             int taken = 0;
             for (int i = 0; i < holders && taken < size; i++) {
-                if ((set >> i & 1) == 1) {
+                if (((set >> i) & 1) == 1) {
                     chosen[taken] = x[i];
                     slope[taken] = y[i];
                     taken++;
@@ -1071,7 +1075,7 @@ public final class FirstParts {
         }
 
         /** A packet is kept only where the call changes one; else it is null. */
-        void keep(Line lineNow, Packed boxNow, Packet changed) {
+        void remember(Line lineNow, Packed boxNow, Packet changed) {
             line.copyOf(lineNow);
             box = boxNow;
             packet = changed;
@@ -1106,7 +1110,7 @@ public final class FirstParts {
         }
 
         void keep(Line line, Packed box, Packet changed) {
-            ring[next].keep(line, box, changed);
+            ring[next].remember(line, box, changed);
             next = (next + 1) % MOST_STEPS;
             size = Math.min(size + 1, MOST_STEPS);
         }

@@ -147,6 +147,8 @@ public final class PromiseTest {
         faultDue("  all  ", NONE);
         faultDue("al", 0);
         faultDue("alls", 0);
+        faultDue("bll", 0);
+        faultDue("qackets 1", 0);
         faultDue("All", 0);
         faultDue("all.", 3);
         faultDue("all;", 4);
@@ -222,6 +224,8 @@ public final class PromiseTest {
         faultDue(repeated("part a1 1;", 5) + "part a1 1", NONE);
         faultDue(repeated("part a1 1;", 6) + "part a1 1", 60);
         faultDue(repeated("part a1 1;", 6) + "all;part a1 1", NONE);
+        faultDue("part a1 1;all;" + repeated("part a1 1;", 5) + "part a1 1", NONE);
+        faultDue("part a1 1;all;" + repeated("part a1 1;", 6) + "part a1 1", 74);
         faultDue(repeated("part a1 1;", 6) + "part", 60);
         faultDue(repeated("part a1 1;", 6) + "room 3", NONE);
         FirstParts x = told("part a1 1;part b1 1;part c1 1;part d1 1;part e1 1");
@@ -405,6 +409,25 @@ public final class PromiseTest {
         due("part(1, 1)", x.part(1, 1), 3);
         due("part(1, 2)", x.part(1, 2), 3);
         due("drop(2)", x.drop(2), UNKNOWN);
+        due("LENGTH without it", x.count(3), 2);
+        due("cost without it", x.count(5), 10);
+        due("the last", x.drop(1), 1);
+        due("LENGTH without both", x.count(3), 1);
+        due("cost without both", x.count(5), 1);
+        x.packets(2);
+        due("it FITS without them", x.count(4), 1);
+        due("sets without them", x.lesser(40), 1);
+        due("plan without them", x.count(6), 1);
+        due("PACKED without them", x.pack(), 1);
+        due("it opens one", x.opened(8), 1);
+        x.lose(0);
+        x.lose(1);
+        due("one is SHUT", x.count(11), 1);
+        x.undo();
+        x.undo();
+        x.undo();
+        x.undo();
+        due("the last is back", x.undo() == 2 ? x.letter(1, 0) : 0, 2);
         due("drop(0)", x.drop(0), 1);
         due("drop(0)", x.drop(0), 0);
         due("drop(0) of none", x.drop(0), UNKNOWN);
@@ -714,6 +737,12 @@ public final class PromiseTest {
             due("packed(far, 0)", x.packed(far, 0), UNKNOWN);
             due("packed(0, far)", x.packed(0, far), OUTSIDE);
         }
+        FirstParts late = packedOf("packets 3;part abc 1 1");
+        late.cut(0, 2);
+        due("the last STRIPE has fewer", late.packed(0, 4), 2);
+        FirstParts only = packedOf("packets 3;part a 1 1");
+        only.lose(1);
+        due("the one STRIPE has fewer", only.packed(0, 4), 2);
         for (int k = 1; k <= 8; k++) {
             FirstParts y = told("packets 8;part a1 1");
             y.need(0, k);
@@ -844,6 +873,11 @@ public final class PromiseTest {
             x.lose(p);
         }
         due("alone it is believed", x.blamed(5), 0);
+        FirstParts y = packedOf("packets 3;part a 1 1;part b 1 1");
+        y.spoil(0, 1, 9);
+        due("each STRIPE once", y.blamed(0), 1);
+        y.spoil(0, 0, 9);
+        due("by both", y.blamed(0), 2);
         for (int far : FAR) {
             due("blamed(far)", x.blamed(far), UNKNOWN);
         }
@@ -895,6 +929,12 @@ public final class PromiseTest {
         x.room(5);
         due("NEEDS up to n", x.plan(0) * 10 + x.plan(1), 43);
         due("nothing changes", x.part(0, 1), 8);
+        FirstParts tight = told("packets 3;room 1;part abc 1 1");
+        due("NEED n alone", tight.plan(0), 3);
+        tight.packets(2);
+        due("NEED n is too low", tight.plan(0), NONE);
+        tight.room(40);
+        due("all the room that there is", tight.plan(0), 1);
         FirstParts y = told("room 3;part ab 4 2;part cd 4 2");
         due("of like ones the lower first", y.plan(0) * 10 + y.plan(1), 12);
         y.weigh(0, 3);
