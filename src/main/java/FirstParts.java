@@ -522,11 +522,11 @@ public final class FirstParts {
         }
 
         boolean isSmallLetter(int i) {
-            return within(i, 0, length - 1) && within(letters[i], 'a', 'z');
+            return i >= 0 && i < length && letters[i] >= 'a' && letters[i] <= 'z';
         }
 
         boolean isDigit(int i) {
-            return within(i, 0, length - 1) && within(letters[i], '0', '9');
+            return i >= 0 && i < length && letters[i] >= '0' && letters[i] <= '9';
         }
 
         boolean isSign(int i, char sign) {
