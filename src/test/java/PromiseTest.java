@@ -432,6 +432,11 @@ public final class PromiseTest {
         due("drop(0)", x.drop(0), 0);
         due("drop(0) of none", x.drop(0), UNKNOWN);
         due("PACKED stays", x.count(7), 3);
+        FirstParts six = told("part a1 1;part b1 1;part c1 1;part d1 1;part e1 1;part f1 1");
+        due("the last of six", six.drop(5), 5);
+        six.undo();
+        due("the first of six", six.drop(0), 5);
+        due("the last one then", six.letter(4, 0), 5);
         for (int far : FAR) {
             due("drop(far)", x.drop(far), UNKNOWN);
         }
