@@ -79,9 +79,8 @@ public final class RandomRunsTest {
                 return same(2, 0, 0, 0) && same(3, 0, 0, 0) && same(11, 0, 0, 0);
             }
             if (random.nextInt(150) == 0) {
-                same(1, 0, 0, 0);
                 pend(random.nextInt(3) == 0 ? manyParts() : someText());
-                return true;
+                return same(1, 0, 0, 0);
             }
             int call = pick();
             return same(call, first(call), second(call), random.nextInt(40) == 0 ? far() : random.nextInt(29));
