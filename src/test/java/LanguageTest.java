@@ -20,7 +20,8 @@ public final class LanguageTest {
             "write 1", "erase 0", "fault 0", "tell 0", "part 2", "letter 2", "packets 1", "room 1", "need 2",
             "weigh 2", "drop 1", "pack 0", "lose 1", "cut 2", "spoil 3", "again 1", "undo 0", "number 2",
             "packed 2", "read 2", "mended 2", "blamed 1", "opened 1", "plan 1", "lesser 1", "count 1"));
-    private static final Set<String> CONSTANTS = Set.of("NONE", "UNKNOWN", "OUTSIDE", "NOT", "FULL");
+    private static final Set<String> CONSTANTS = new TreeSet<>(List.of(
+            "NONE -1", "UNKNOWN -2", "OUTSIDE -3", "NOT -4", "FULL -5"));
     private static final List<String> FORBIDDEN = List.of(
             "\\b(throw|throws|try|catch|finally|synchronized|assert|package|import|native|volatile|transient)\\b",
             "->", "::", "\\b(Object|Exception|Error|Thread|Class|Random|System\\.(?!arraycopy\\b)\\w+)\\b",
@@ -29,8 +30,10 @@ public final class LanguageTest {
 
     private static int wrong = 0;
 
-    public static void main(String[] args) throws IOException {
-        face();
+    public static void main(String[] args) throws IOException, IllegalAccessException {
+        methods();
+        constants();
+        constructor();
         List<Class<?>> classes = new ArrayList<>(Arrays.asList(FirstParts.class.getDeclaredClasses()));
         classes.add(FirstParts.class);
         check(classes.size() <= MOST_CLASSES, "there are " + classes.size() + " classes");
@@ -57,29 +60,40 @@ public final class LanguageTest {
         }
     }
 
-    private static void face() {
+    private static void methods() {
         int modifiers = FirstParts.class.getModifiers();
         check(Modifier.isPublic(modifiers) && Modifier.isFinal(modifiers), "the class is not public and final");
+        check(FirstParts.class.getSuperclass() == Object.class && FirstParts.class.getInterfaces().length == 0,
+                "the class is a kind of another one");
         Set<String> methods = new TreeSet<>();
         for (Method m : FirstParts.class.getDeclaredMethods()) {
             if (!Modifier.isPrivate(m.getModifiers())) {
                 methods.add(m.getName() + " " + m.getParameterCount());
-                check(Modifier.isPublic(m.getModifiers()) && m.getReturnType() == int.class, m + " is no method of the face");
+                String ints = "int,".repeat(m.getParameterCount()).replaceAll(",$", "");
+                check(m.toString().equals("public int FirstParts." + m.getName() + "(" + ints + ")"),
+                        m + " is no method of the face");
             } else {
                 check(METHODS.stream().noneMatch(f -> f.startsWith(m.getName() + " ")), m + " bears a public name");
             }
         }
         check(methods.equals(METHODS), "the methods are " + methods);
+    }
+
+    private static void constants() throws IllegalAccessException {
         Set<String> constants = new TreeSet<>();
         for (Field f : FirstParts.class.getDeclaredFields()) {
             if (!Modifier.isPrivate(f.getModifiers())) {
-                constants.add(f.getName());
+                boolean isOne = f.toString().equals("public static final int FirstParts." + f.getName());
+                check(isOne, f + " is no constant of the face");
+                constants.add(f.getName() + " " + (isOne ? f.getInt(null) : ""));
             }
         }
         check(constants.equals(CONSTANTS), "the constants are " + constants);
+    }
+
+    private static void constructor() {
         Constructor<?>[] made = FirstParts.class.getDeclaredConstructors();
-        check(made.length == 1 && Modifier.isPublic(made[0].getModifiers()) && made[0].getParameterCount() == 0,
-                "the constructor is another one");
+        check(made.length == 1 && made[0].toString().equals("public FirstParts()"), "the constructor is another one");
     }
 
     private static void shape(Class<?> c) {
